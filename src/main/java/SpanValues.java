@@ -717,18 +717,14 @@ public final class SpanValues {
             draft.clear();
             advance();
             for (int line = 0; line <= length && kind != AT_END && faultNumber == 0; line++) {
-                readLine(line);
+                if (isWord("rule")) {
+                    readRule();
+                } else if (line == 0 && isWord("table")) {
+                    readTable();
+                } else {
+                    fail(CANT_STAND);
+                }
                 passSign(';');
-            }
-        }
-
-        private void readLine(int line) {
-            if (isWord("rule")) {
-                readRule();
-            } else if (line == 0 && isWord("table")) {
-                readTable();
-            } else {
-                fail(CANT_STAND);
             }
         }
 
@@ -759,10 +755,10 @@ public final class SpanValues {
                 return;
             }
             advance();
-            draft.head[rule] = readLabel();
+            draft.head[rule] = readPart(true);
             passSign('=');
-            draft.left[rule] = readPart();
-            draft.right[rule] = isLabel() || isLetter() ? readPart() : NONE;
+            draft.left[rule] = readPart(false);
+            draft.right[rule] = isLabel() || isLetter() ? readPart(false) : NONE;
             draft.price[rule] = 1;
             if (isWord("cost")) {
                 advance();
@@ -776,23 +772,17 @@ public final class SpanValues {
             draft.ruleCount = rule + 1;
         }
 
-        private int readLabel() {
-            if (!isLabel()) {
+        private int readPart(boolean labelAlone) {
+            int part = 0;
+            if (isLabel()) {
+                part = bytes[first] - 'A';
+            } else if (isLetter() && !labelAlone) {
+                part = FIRST_LETTER + bytes[first] - 'a';
+            } else {
                 fail(CANT_STAND);
-                return 0;
             }
-            int label = bytes[first] - 'A';
             advance();
-            return label;
-        }
-
-        private int readPart() {
-            if (!isLetter()) {
-                return readLabel();
-            }
-            int letter = bytes[first] - 'a';
-            advance();
-            return FIRST_LETTER + letter;
+            return part;
         }
 
         private int readNumber(int low, int high) {
@@ -853,6 +843,7 @@ public final class SpanValues {
                 behind++;
             }
             first = behind;
+            number = 0;
             if (behind >= length) {
                 kind = AT_END;
             } else if (isSmall(bytes[behind])) {
@@ -862,17 +853,12 @@ public final class SpanValues {
                 }
             } else if (isDigit(bytes[behind])) {
                 kind = NUMBER;
-                readDigits();
+                while (behind < length && isDigit(bytes[behind])) {
+                    number = Math.min(number * 10 + bytes[behind] - '0', HUGE);
+                    behind++;
+                }
             } else {
                 kind = SIGN;
-                behind++;
-            }
-        }
-
-        private void readDigits() {
-            number = 0;
-            while (behind < length && isDigit(bytes[behind])) {
-                number = Math.min(number * 10 + bytes[behind] - '0', HUGE);
                 behind++;
             }
         }
@@ -1030,7 +1016,7 @@ public final class SpanValues {
         /** An item, A_LETTER that fits, or NOT_THERE. */
         private int partOver(int part, int i, int j) {
             if (part < FIRST_LETTER) {
-                return itemAt(part, i, j);
+                return spanAt[i * EDGES + j] * LABELS + part;
             }
             return j == i + 1 && letters[i] == part - FIRST_LETTER ? A_LETTER : NOT_THERE;
         }
@@ -1830,31 +1816,32 @@ public final class SpanValues {
         /** Each row of pairs, and their first ones, go up in the order: behind one that does not fit none does. */
         private void gatherPairs(int at, int label) {
             int first = chart.left[at];
-            int firstHeld = first < 0 ? 1 : held[first];
-            boolean fits = true;
-            for (int k = 0; k < firstHeld && fits; k++) {
-                int firstCost = first < 0 ? 0 : cost[first * RANKED + k];
-                fits = gatherRow(at, label, k, firstCost + rules.price[chart.rule[at]]);
-            }
-        }
-
-        /** Pairs with the first part's k-th tree; false if not even the first of them fits. */
-        private boolean gatherRow(int at, int label, int k, int costSoFar) {
             int second = chart.right[at];
+            int firstHeld = first < 0 ? 1 : held[first];
             int secondHeld = second < 0 ? 1 : held[second];
-            for (int l = 0; l < secondHeld; l++) {
-                int secondCost = second < 0 ? 0 : cost[second * RANKED + l];
-                if (!putInBase(label, costSoFar + secondCost, at, k * RANKED + l)) {
-                    return l > 0;
+            int price = rules.price[chart.rule[at]];
+            for (int k = 0; k < firstHeld; k++) {
+                int costSoFar = first < 0 ? price : price + cost[first * RANKED + k];
+                for (int l = 0; l < secondHeld; l++) {
+                    int all = second < 0 ? costSoFar : costSoFar + cost[second * RANKED + l];
+                    if (!putInBase(label, all, at, k * RANKED + l)) {
+                        if (l == 0) {
+                            return;
+                        }
+                        break;
+                    }
                 }
             }
-            return true;
         }
 
         private boolean putInBase(int label, int all, int at, int sub) {
             int start = label * RANKED;
             int place = start + baseHeld[label];
-            while (place > start && !isAhead(place - 1, all, at, sub)) {
+            while (place > start && baseCost[place - 1] > all) {
+                place--;
+            }
+            while (place > start && baseCost[place - 1] == all
+                && isSmaller(at, sub, baseCase[place - 1], baseSubs[place - 1])) {
                 place--;
             }
             if (place >= start + RANKED) {
@@ -1871,13 +1858,6 @@ public final class SpanValues {
             baseSubs[place] = sub;
             baseHeld[label] = last - start + 1;
             return true;
-        }
-
-        private boolean isAhead(int place, int all, int at, int sub) {
-            if (baseCost[place] != all) {
-                return baseCost[place] < all;
-            }
-            return isSmaller(baseCase[place], baseSubs[place], at, sub);
         }
 
         /** By shape alone: the case (cases stand by rule, then m), then the parts' trees. */
@@ -1901,7 +1881,11 @@ public final class SpanValues {
             for (int tree = start; tree < end; tree++) {
                 if (isSmaller(caseOf[tree], subs[tree], at, sub)) {
                     smaller++;
-                } else {
+                }
+            }
+            // Not in the loop above: a label can be its own part, and these ranks be asked there.
+            for (int tree = start; tree < end; tree++) {
+                if (rank[tree] >= smaller) {
                     rank[tree]++;
                 }
             }
@@ -2108,7 +2092,10 @@ public final class SpanValues {
         }
     }
 
-    /** How many trees of each item have each cost. */
+    /**
+     * How many trees of each item have each cost, counted as far as was asked for. Where those of an
+     * item are BEYOND together, no more of them are counted: whatever has such a part is BEYOND too.
+     */
     private static final class Tally {
         private static final int WIDTH = MOST_CHEAP + 1;
         /** Two numbers below it have a product that a long holds. */
@@ -2117,7 +2104,11 @@ public final class SpanValues {
         private final Grammar rules;
         private final Chart chart;
         private final Costs costs;
-        private final boolean[] counted;
+        /** The cost up to which all items of a span are counted. */
+        private final int[] counted;
+        /** The dearest cost at which an item has trees that are counted. */
+        private final int[] high;
+        private final long[] together;
         /** Made when it is first asked for: it is by far the largest row. */
         private long[] number;
 
@@ -2125,13 +2116,15 @@ public final class SpanValues {
             this.rules = rules;
             this.chart = chart;
             this.costs = costs;
-            counted = new boolean[MOST_SPANS];
+            counted = new int[MOST_SPANS];
+            high = new int[MOST_ITEMS];
+            together = new long[MOST_ITEMS];
         }
 
         void forget() {
-            for (int span = 0; span < MOST_SPANS; span++) {
-                counted[span] = false;
-            }
+            Arrays.fill(counted, 0);
+            Arrays.fill(high, 0);
+            Arrays.fill(together, 0L);
         }
 
         /** How many cost no more than this, or BEYOND. */
@@ -2142,81 +2135,80 @@ public final class SpanValues {
             }
             int outer = item / LABELS;
             for (int span = 0; span <= outer; span++) {
-                if (!counted[span] && chart.isInside(span, outer)) {
-                    counted[span] = true;
-                    countSpan(span);
+                if (chart.isInside(span, outer)) {
+                    countSpan(span, most);
                 }
             }
             long all = 0;
-            for (int cost = 0; cost <= most && cost < WIDTH; cost++) {
+            for (int cost = 1; cost <= most && cost < WIDTH; cost++) {
                 all = add(all, number[item * WIDTH + cost]);
             }
             return all;
         }
 
-        private void countSpan(int span) {
+        private void countSpan(int span, int most) {
             int base = span * LABELS;
-            Arrays.fill(number, base * WIDTH, (base + LABELS) * WIDTH, 0L);
-            for (int item = base; item < base + LABELS; item++) {
-                for (int at = chart.caseStart(item); at < chart.caseEnd(item); at++) {
-                    if (!chart.goesOn(at) && costs.isFull(at)) {
-                        addCase(item, at);
+            for (int cost = counted[span] + 1; cost <= most && cost < WIDTH; cost++) {
+                for (int item = base; item < base + LABELS; item++) {
+                    long many = countItem(item, cost);
+                    number[item * WIDTH + cost] = many;
+                    if (many != 0) {
+                        high[item] = cost;
+                        together[item] = add(together[item], many);
                     }
                 }
-            }
-            for (int cost = 1; cost < WIDTH && chart.unaryCount > 0; cost++) {
-                addUnaries(base, cost);
+                counted[span] = cost;
             }
         }
 
-        private void addCase(int item, int at) {
+        private long countItem(int item, int cost) {
+            long all = 0;
+            if (!costs.has(item) || cost < costs.low[item] || together[item] >= BEYOND) {
+                return all;
+            }
+            for (int at = chart.caseStart(item); at < chart.caseEnd(item); at++) {
+                int rest = cost - rules.price[chart.rule[at]];
+                if (rest >= 0 && costs.isFull(at)) {
+                    all = add(all, countCase(at, rest));
+                }
+            }
+            return all;
+        }
+
+        /** What is cheaper is all counted, over the same span too, as each rule costs something. */
+        private long countCase(int at, int rest) {
             int first = chart.left[at];
             int second = chart.right[at];
-            int price = rules.price[chart.rule[at]];
             if (first < 0 && second < 0) {
-                addAt(item * WIDTH + price, 1);
-            } else if (first < 0 || second < 0) {
-                addShifted(item, Math.max(first, second), price, 1);
-            } else {
-                int rest = WIDTH - price - costs.low[second];
-                for (int cost = costs.low[first]; cost < rest; cost++) {
-                    addShifted(item, second, price + cost, number[first * WIDTH + cost]);
-                }
+                return rest == 0 ? 1 : 0;
             }
+            if (first < 0 || second < 0) {
+                return number[Math.max(first, second) * WIDTH + rest];
+            }
+            return countPairs(first, second, rest);
         }
 
-        private void addShifted(int item, int part, int shift, long times) {
-            for (int cost = costs.low[part]; cost + shift < WIDTH && times != 0; cost++) {
-                long many = number[part * WIDTH + cost];
+        private long countPairs(int first, int second, int rest) {
+            int from = Math.max(costs.low[first], rest - high[second]);
+            int to = Math.min(high[first], rest - costs.low[second]);
+            long all = 0;
+            for (int cost = from; cost <= to; cost++) {
+                long many = number[first * WIDTH + cost];
                 if (many != 0) {
-                    addAt(item * WIDTH + shift + cost, multiply(many, times));
+                    all = add(all, multiply(many, number[second * WIDTH + rest - cost]));
                 }
             }
-        }
-
-        private void addAt(int place, long many) {
-            number[place] = add(number[place], many);
-        }
-
-        /** What is cheaper is all counted, as each rule costs something. */
-        private void addUnaries(int base, int cost) {
-            for (int at = 0; at < chart.unaryCount; at++) {
-                int rule = chart.unary[at];
-                int before = cost - rules.price[rule];
-                if (before > 0) {
-                    long many = number[(base + rules.left[rule]) * WIDTH + before];
-                    addAt((base + rules.head[rule]) * WIDTH + cost, many);
-                }
-            }
+            return all;
         }
 
         static long add(long a, long b) {
-            return Math.min(a + b, BEYOND);
+            long all = a + b;
+            return all > BEYOND ? BEYOND : all;
         }
 
         static long multiply(long a, long b) {
             if (a < SMALL && b < SMALL) {
-                return Math.min(a * b, BEYOND);
+                return add(a * b, 0);
             }
             if (a == 0 || b == 0) {
                 return 0;

@@ -1,0 +1,76 @@
+/** A program under test, with texts in place of numbers. */
+final class Desk {
+    private static int wrong = 0;
+
+    final SpanValues x = new SpanValues();
+    private final String name;
+
+    Desk(String name) {
+        this.name = name;
+    }
+
+    /** With a grammar and a sentence that have no faults. */
+    Desk(String name, String grammar, String sentence) {
+        this(name);
+        due("the grammar has no fault", grammar(grammar) >= 0 ? 1 : 0, 1);
+        due("the sentence has no fault", say(sentence), sentence.length());
+    }
+
+    Desk due(String call, long got, long want) {
+        if (got != want) {
+            wrong++;
+            System.out.println(name + ": " + call + " answered " + got + ", due is " + want);
+        }
+        return this;
+    }
+
+    void due(String call, String got, String want) {
+        due(call + " is '" + want + "', not '" + got + "'", got.equals(want) ? 1 : 0, 1);
+    }
+
+    /** The tape is empty first, and has just the text then. */
+    void load(String text) {
+        x.end(0);
+        for (int at = 0; at < text.length(); at += 20) {
+            int[] n = new int[5];
+            for (int k = 0; k < 20; k++) {
+                int sign = at + k < text.length() ? text.charAt(at + k) : 0;
+                n[k / 4] = n[k / 4] << 8 | sign;
+            }
+            x.feed(n[0], n[1], n[2], n[3], n[4]);
+        }
+        x.end(text.length());
+    }
+
+    int grammar(String text) {
+        load(text);
+        return x.grammar();
+    }
+
+    int say(String text) {
+        load(text);
+        return x.say();
+    }
+
+    /** What is told in OUT, all of it. */
+    String out() {
+        StringBuilder text = new StringBuilder();
+        for (int at = 0; x.octet(at) != SpanValues.NONE; at++) {
+            text.append((char) x.octet(at));
+        }
+        return text.toString();
+    }
+
+    /** The text of a tree, or its answer if it is refused. */
+    String tree(int label, int i, int j, int k) {
+        int length = x.tell(label, i, j, k);
+        return length < 0 ? String.valueOf(length) : out();
+    }
+
+    static void finish() {
+        System.out.println(wrong == 0 ? "all answers are as due" : wrong + " answers are not as due");
+        if (wrong != 0) {
+            System.exit(1);
+        }
+    }
+}
