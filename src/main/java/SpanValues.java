@@ -1935,30 +1935,29 @@ public final class SpanValues {
             return true;
         }
 
-        /** A label's first tree that is left: headFrom is NONE (of its base), or the place of a rule in unary. */
+        /**
+         * A label's first tree that is left: headFrom is NONE (of its base), or the place of a rule in
+         * unary. What is compared is of different cases, so like costs are settled by the case alone.
+         */
         private void findHead(int base, int label) {
             headCost = NONE;
             headFrom = NONE;
             int headCase = NONE;
-            int headSub = 0;
             if (baseTaken[label] < baseHeld[label]) {
                 int at = label * RANKED + baseTaken[label];
                 headCost = baseCost[at];
                 headCase = baseCase[at];
-                headSub = baseSubs[at];
             }
             for (int at = 0; at < chart.unaryCount; at++) {
                 int rule = chart.unary[at];
                 int part = base + rules.left[rule];
                 if (rules.head[rule] == label && unaryTaken[at] < held[part]) {
                     int all = rules.price[rule] + cost[part * RANKED + unaryTaken[at]];
-                    int sub = unaryTaken[at] * RANKED;
-                    boolean like = headCost == all && isSmaller(unaryCase[at], sub, headCase, headSub);
+                    boolean like = all == headCost && unaryCase[at] < headCase;
                     if (headCost == NONE || all < headCost || like) {
                         headCost = all;
                         headFrom = at;
                         headCase = unaryCase[at];
-                        headSub = sub;
                     }
                 }
             }

@@ -138,6 +138,10 @@ public final class PromisesTest {
         dueFault(";", 1, 0);
         dueFault("Rule A = a;", 1, 0);
         dueFault("rules A = a;", 1, 0);
+        dueFault("mule A = a;", 1, 0);
+        dueFault("rule A = a most 5;", 1, 11);
+        dueFault("rule A = a is 1;", 1, 11);
+        dueFault("cable 2 zero 0", 1, 0);
         dueFault("\trule A = a;", 1, 0);
         dueFault("5 rule A = a;", 1, 0);
         dueFault("rule M = a;", 1, 5);
@@ -322,6 +326,11 @@ public final class PromisesTest {
         d.due("a", d.x.least(0, 0, 1), 1).due("a by B", d.x.least(1, 0, 1), 5).due("b", d.x.least(1, 1, 2), 5);
         d.due("b by A", d.x.least(0, 1, 2), 8).due("ab", d.x.least(0, 0, 2), 11).due("B", d.x.least(1, 0, 2), 15);
         d.due("none", d.x.least(2, 0, 2), NONE);
+        // Up and down the labels: one round over the rules is not enough.
+        d.grammar("rule B = J;rule J = C;rule C = K;rule K = D;rule D = L;rule L = a cost 9;");
+        d.say("a");
+        d.due("B", d.x.least(1, 0, 1), 14).due("dearest", d.x.dearest(1, 0, 1), 9).due("ways", d.x.ways(1, 0, 1), 1);
+        d.due("some", d.x.used(1, 0, 1, 0), 63).due("each", d.x.used(1, 0, 1, 1), 63);
         // The way round by B and C is cheaper than the rule itself.
         Desk e = new Desk("14 least", "rule A = a cost 50;rule A = B;rule B = C;rule C = a cost 3;rule C = A;", "a");
         e.due("A", e.x.least(0, 0, 1), 5).due("B", e.x.least(1, 0, 1), 4).due("C", e.x.least(2, 0, 1), 3);
@@ -335,6 +344,9 @@ public final class PromisesTest {
         e.due("a ring", e.x.ways(0, 0, 1), ENDLESS).due("to a ring", e.x.ways(2, 0, 1), ENDLESS);
         e.due("with one part of a ring", e.x.ways(3, 0, 2), ENDLESS).due("d", e.x.ways(3, 1, 2), 1);
         e.due("a ring without trees", e.x.ways(4, 0, 1), 0).due("d", e.x.ways(5, 1, 2), 1);
+        e.grammar(RING + "rule D = A E;rule D = E A;rule E = e;rule E = e cost 2;");
+        e.say("aea");
+        e.due("times two", e.x.ways(3, 0, 2), ENDLESS).due("two times", e.x.ways(3, 1, 3), ENDLESS);
         // Twelve labels, each on to the next by three rules: 3 to the 11th for each letter.
         StringBuilder text = new StringBuilder("rule A=AA;");
         for (int label = 0; label < 11; label++) {
@@ -349,6 +361,20 @@ public final class PromisesTest {
         Desk g = new Desk("15 ways", EDGE, "aaaaaaab");
         g.due("10^15", g.x.ways(0, 0, 8), 1000000000000000L).due("10^15 + 1", g.x.ways(1, 0, 8), TOO_GREAT);
         g.due("10^13", g.x.ways(0, 1, 8), 10000000000000L).due("1", g.x.ways(2, 0, 8), 1);
+        Desk h = new Desk("15 ways", powers(), "aaaaxaaa");
+        h.due("2^36", h.x.ways(1, 0, 4), 1L << 36).due("2^27", h.x.ways(2, 4, 8), 1L << 27);
+        h.due("2^63", h.x.ways(0, 0, 8), TOO_GREAT).due("as many cost 72", h.x.cheap(0, 0, 8, 72), TOO_GREAT);
+        h.due("none is cheaper", h.x.cheap(0, 0, 8, 71), 0);
+    }
+
+    /** B has 2 to the 9th trees for each letter. */
+    private static String powers() {
+        StringBuilder text = new StringBuilder("rule A=BC;rule C=xB;rule B=DB;rule B=D;");
+        for (char label = 'D'; label <= 'L'; label++) {
+            char next = label == 'L' ? 'a' : (char) (label + 1);
+            text.append(("rule " + label + "=" + next + ";").repeat(2));
+        }
+        return text.toString();
     }
 
     private static void dearest() {
@@ -397,6 +423,11 @@ public final class PromisesTest {
         g.due("over a failing one", g.x.sum(1, 0, 2), NONE).due("no trees", g.x.sum(0, 0, 2), 0);
         g.due("by D", g.x.sum(3, 1, 3), NONE).due("F in the span of D", g.x.sum(5, 1, 3), NONE);
         g.due("C by itself", g.x.sum(2, 2, 3), 1);
+        g.say("ac");
+        g.due("the first part fails", g.x.sum(3, 0, 2), NONE);
+        g.grammar("rule D = C A;rule A = A;rule A = a;rule C = c;");
+        g.say("ca");
+        g.due("the other one fails", g.x.sum(3, 0, 2), NONE);
     }
 
     private static final String ODD =
@@ -600,6 +631,9 @@ public final class PromisesTest {
         d.due("k 16", d.x.bounds(16, 0, 0), NOT_THERE).due("k -1", d.x.bounds(-1, 0, 0), NOT_THERE);
         d.due("n -1", d.x.bounds(0, -1, 0), NOT_THERE).due("what 3", d.x.bounds(0, 0, 3), NOT_THERE);
         d.due("what -1", d.x.bounds(0, 0, -1), NOT_THERE).due("n huge", d.x.bounds(0, Integer.MAX_VALUE, 0), NONE);
+        d.grammar("rule A = a;");
+        d.say("a");
+        d.due("one rule, one letter", d.x.bounds(0, 0, 0), 0).due("its end", d.x.bounds(0, 0, 2), 1);
         d.say("");
         d.due("no letters", d.x.bounds(0, 0, 0), NONE).due("ahead of it", d.x.bounds(0, 0, 3), NOT_THERE);
         d.say("a");
@@ -645,6 +679,10 @@ public final class PromisesTest {
         d.due("300", d.x.cheap(0, 0, 1, 300), 43).due("0", d.x.cheap(0, 0, 1, 0), 0).due("1", d.x.cheap(0, 0, 1, 1), 1);
         d.due("7", d.x.cheap(0, 0, 1, 7), 1).due("8", d.x.cheap(0, 0, 1, 8), 2).due("no trees", d.x.cheap(2, 0, 1, 300), 0);
         d.due("301", d.x.cheap(0, 0, 1, 301), NOT_THERE).due("-1", d.x.cheap(0, 0, 1, -1), NOT_THERE);
+        d.grammar("rule A = A;rule A = a;");
+        for (int c = 0; c <= 300; c++) {
+            d.due("one for each cost", d.x.cheap(0, 0, 1, c), c);
+        }
         Desk e = new Desk("30 cheap", EDGE, "aaaaaaab");
         e.due("21", e.x.cheap(0, 0, 8, 21), 0).due("10^15", e.x.cheap(0, 0, 8, 22), 1000000000000000L);
         e.due("7", e.x.cheap(1, 0, 8, 7), 0).due("8", e.x.cheap(1, 0, 8, 8), 1).due("22", e.x.cheap(1, 0, 8, 22), 1);
@@ -741,6 +779,11 @@ public final class PromisesTest {
         d.due("z is not there", d.x.mends(), 0);
         d.say("a");
         dueMend(d, 0, 15, 1);
+        d.grammar("rule A = L;rule L = B;rule B = K;rule K = C;rule C = J;rule J = c;rule A = C cost 9;");
+        d.say("z");
+        dueMend(d, 0, 2, 6);
+        d.x.prices(6, 2);
+        dueMend(d, 0, 2, 4);
     }
 
     private static void rings() {
