@@ -2206,13 +2206,11 @@ public final class SpanValues {
         }
 
         static long multiply(long a, long b) {
-            if (a < SMALL && b < SMALL) {
-                return add(a * b, 0);
-            }
             if (a == 0 || b == 0) {
                 return 0;
             }
-            return a > BEYOND / b ? BEYOND : a * b;
+            boolean fits = a < SMALL && b < SMALL ? a * b < BEYOND : a <= BEYOND / b;
+            return fits ? a * b : BEYOND;
         }
     }
 

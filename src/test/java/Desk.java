@@ -32,14 +32,20 @@ final class Desk {
     void load(String text) {
         x.end(0);
         for (int at = 0; at < text.length(); at += 20) {
-            int[] n = new int[5];
-            for (int k = 0; k < 20; k++) {
-                int sign = at + k < text.length() ? text.charAt(at + k) : 0;
-                n[k / 4] = n[k / 4] << 8 | sign;
-            }
+            int[] n = numbers(text, at);
             x.feed(n[0], n[1], n[2], n[3], n[4]);
         }
         x.end(text.length());
+    }
+
+    /** What feed is told for twenty bytes of a text; behind its end zeros. */
+    static int[] numbers(String text, int from) {
+        int[] n = new int[5];
+        for (int k = 0; k < 20; k++) {
+            int sign = from + k < text.length() ? text.charAt(from + k) : 0;
+            n[k / 4] = n[k / 4] << 8 | sign;
+        }
+        return n;
     }
 
     int grammar(String text) {

@@ -40,10 +40,7 @@ public final class TreesTest {
 
     private static void feed(SpanValues program, PlainModel model, String text) {
         for (int at = 0; at < text.length(); at += 20) {
-            int[] n = new int[5];
-            for (int k = 0; k < 20; k++) {
-                n[k / 4] = n[k / 4] << 8 | (at + k < text.length() ? text.charAt(at + k) : 32);
-            }
+            int[] n = Desk.numbers(text, at);
             program.feed(n[0], n[1], n[2], n[3], n[4]);
             model.feed(n);
         }
