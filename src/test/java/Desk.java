@@ -1,9 +1,19 @@
 /** A program under test, with texts in place of numbers. */
 final class Desk {
     private static int wrong = 0;
+    private static String test = "";
 
     final SpanValues x = new SpanValues();
     private final String name;
+
+    /** Named as the test that runs. */
+    Desk() {
+        this(test);
+    }
+
+    Desk(String grammar, String sentence) {
+        this(test, grammar, sentence);
+    }
 
     Desk(String name) {
         this.name = name;
@@ -24,8 +34,8 @@ final class Desk {
         return this;
     }
 
-    void due(String call, String got, String want) {
-        due(call + " is '" + want + "', not '" + got + "'", got.equals(want) ? 1 : 0, 1);
+    Desk due(String call, String got, String want) {
+        return due(call + " is '" + want + "', not '" + got + "'", got.equals(want) ? 1 : 0, 1);
     }
 
     /** The tape is empty first, and has just the text then. */
@@ -67,10 +77,49 @@ final class Desk {
         return text.toString();
     }
 
+    /** What all calls but those on the tape and its faults tell: no refused call changes it. */
+    String picture() {
+        StringBuilder text = new StringBuilder();
+        for (int what = 0; what < 10; what++) {
+            text.append(what == 7 ? 0 : x.count(what)).append(' ');
+        }
+        for (int rule = 0; rule < x.count(0); rule++) {
+            for (int what = 0; what < 6; what++) {
+                text.append(x.rule(rule, what)).append(what == 5 ? '\n' : ' ');
+            }
+        }
+        for (int a = 0; a < x.count(3); a++) {
+            for (int b = 0; b < x.count(3); b++) {
+                text.append(x.table(0, a, b)).append(x.table(1, a, b)).append(' ');
+            }
+        }
+        for (int k = 0; k < 8; k++) {
+            for (int what = 0; what < 4; what++) {
+                text.append(x.settled(k, what)).append(' ');
+            }
+        }
+        text.append(x.rounds()).append(' ').append(x.laws()).append(' ').append(x.heads()).append(' ');
+        text.append(x.mends()).append(' ').append(x.mend(0)).append(' ').append(x.mend(1)).append(' ').append(x.mend(2));
+        text.append(' ').append(x.rings()).append(' ').append(x.alive()).append(' ').append(x.bounds(0, 1, 2));
+        return text.append('\n').append(out()).toString();
+    }
+
     /** The text of a tree, or its answer if it is refused. */
     String tree(int label, int i, int j, int k) {
         int length = x.tell(label, i, j, k);
         return length < 0 ? String.valueOf(length) : out();
+    }
+
+    /** Desks made from now on are named so. */
+    static void about(String name) {
+        test = name;
+    }
+
+    static void must(boolean holds, String otherwise) {
+        if (!holds) {
+            wrong++;
+            System.out.println(otherwise);
+        }
     }
 
     static void finish() {

@@ -12,10 +12,6 @@ public final class PromisesTest {
     private static final String RING = "rule A = A A cost 2;rule A = a;rule A = B cost 3;rule B = A cost 4;rule B = b cost 5;";
     private static final String MODULO_3 =
         "table 3 zero 0 one 1 plus 0 1 2 1 2 0 2 0 1 times 0 0 0 0 1 2 0 2 1;";
-    /** Over aaaaaaab: A has 100 to the 7th times 10 trees, all of cost 22, and B one more. */
-    private static final String EDGE = "rule A=HA;" + "rule A=b;".repeat(10) + "rule H=K;".repeat(10)
-        + "rule K=a;".repeat(10) + "rule B=A;rule B=aC;rule C=aC;rule C=b;";
-    private static final String FLIP = "table 2 zero 0 one 1 plus 0 1 1 0 times 0 0 0 1;";
 
     public static void main(String[] args) {
         newObject();
@@ -105,7 +101,7 @@ public final class PromisesTest {
         d.due("cost stays", d.x.rule(1, 3), 7);
         d.due("another", d.grammar("rule C = c;rule C = d;"), 2).due("none is out", d.x.rule(1, 5), 0);
         d.due("the table without one", d.x.count(3), 2).due("one and one", d.x.table(0, 1, 1), 1);
-        d.due("a table alone", d.grammar(FLIP), 0).due("its sum", d.x.table(0, 1, 1), 0);
+        d.due("a table alone", d.grammar(Grammars.FLIP), 0).due("its sum", d.x.table(0, 1, 1), 0);
         d.due("blanks and none", d.grammar("\nrule\nA\n=\na B\ncost5as0;ruleL=Lz;"), 2);
         d.due("cost", d.x.rule(0, 3), 5).due("L", d.x.rule(1, 0), 11).due("z", d.x.rule(1, 2), 125);
     }
@@ -358,7 +354,7 @@ public final class PromisesTest {
         Desk f = new Desk("15 ways", text.toString(), "aaa");
         f.due("3^11", f.x.ways(0, 0, 1), 177147).due("3^22", f.x.ways(0, 0, 2), 31381059609L);
         f.due("2 * 3^33", f.x.ways(0, 0, 3), TOO_GREAT);
-        Desk g = new Desk("15 ways", EDGE, "aaaaaaab");
+        Desk g = new Desk("15 ways", Grammars.EDGE, "aaaaaaab");
         g.due("10^15", g.x.ways(0, 0, 8), 1000000000000000L).due("10^15 + 1", g.x.ways(1, 0, 8), TOO_GREAT);
         g.due("10^13", g.x.ways(0, 1, 8), 10000000000000L).due("1", g.x.ways(2, 0, 8), 1);
         Desk h = new Desk("15 ways", powers(), "aaaaxaaa");
@@ -439,27 +435,13 @@ public final class PromisesTest {
         d.due("2 * one", d.x.value(0, 0, 1), 1).due("(1 * one) * one", d.x.value(1, 0, 2), 1);
         d.due("(0 + 1) + 0", d.x.value(2, 0, 1), 2).due("(0 + 0) + 1", d.x.value(3, 0, 1), 1);
         d.due("1 * zero, without trees", d.x.value(4, 0, 1), 2).due("no cases", d.x.value(5, 0, 1), 0);
-        Desk e = new Desk("19 value", FLIP + "rule A = a;rule A = A;", "a");
+        Desk e = new Desk("19 value", Grammars.FLIP + "rule A = a;rule A = A;", "a");
         e.due("to and fro", e.x.value(0, 0, 1), UNSETTLED).due("others too", e.x.value(5, 0, 1), UNSETTLED);
         e.due("ahead of it", e.x.value(12, 0, 1), NOT_THERE);
         e.x.drops(1, 1);
         e.due("settled", e.x.value(0, 0, 1), 1);
         Desk f = new Desk("19 value", "table 2 zero 1 one 0 plus 0 0 0 1 times 0 1 1 1;" + PAIRS, "aab");
         f.due("and, or: aa", f.x.value(0, 0, 2), 0).due("aab", f.x.value(0, 0, 3), 1);
-    }
-
-    /** A round for each of 96 steps by A .. H, four by each label over each of three spans, then one each. */
-    private static String slow() {
-        StringBuilder text = new StringBuilder("table 5 zero 0 one 1 plus");
-        for (int a = 0; a < 25; a++) {
-            text.append(' ').append(Math.max(a / 5, a % 5));
-        }
-        text.append(" times 0 0 0 0 0 0 1 2 3 4 0 0 0 0 1 0 2 3 4 4 0 0 0 0 0;rule A=a;rule A=H a as 2;rule A=A as 3;");
-        for (char label = 'B'; label <= 'H'; label++) {
-            text.append("rule ").append(label).append('=').append((char) (label - 1)).append(" as 2;");
-            text.append("rule ").append(label).append('=').append(label).append(" as 3;");
-        }
-        return text.append("rule I=H;rule J=I;rule K=J;rule L=K;").toString();
     }
 
     private static void rounds() {
@@ -471,7 +453,7 @@ public final class PromisesTest {
         d.due("one, and one that changes none", d.x.rounds(), 2);
         d.say("aaaaaaaa");
         d.due("1, 2, 4, 8", d.x.rounds(), 5);
-        Desk e = new Desk("20 rounds", slow(), "aaa");
+        Desk e = new Desk("20 rounds", Grammars.slow(), "aaa");
         int last = e.x.count(0) - 1;
         e.due("100 change", e.x.rounds(), UNSETTLED).due("laws", e.x.laws(), UNSETTLED);
         e.x.drops(last, 1);
@@ -594,19 +576,11 @@ public final class PromisesTest {
         d.due("two and two", d.x.size(0, 0, 4, 2, 1), 3).due("not so many", d.x.size(0, 0, 4, 5, 0), NONE);
         d.due("k 16", d.x.size(0, 0, 4, 16, 0), NOT_THERE).due("k -1", d.x.size(0, 0, 4, -1, 0), NOT_THERE);
         d.due("what 2, not so many", d.x.size(0, 0, 4, 5, 2), NOT_THERE).due("what -1", d.x.size(0, 0, 4, 0, -1), NOT_THERE);
-        Desk e = new Desk("25 size", bigRing(), "a");
+        Desk e = new Desk("25 size", Grammars.bigRing(), "a");
         for (int k = 0; k < 16; k++) {
             e.due("twelve, and twelve for each time round", e.x.size(0, 0, 1, k, 0), 12 + 12 * k);
             e.due("all one in the other", e.x.size(0, 0, 1, k, 1), 12 + 12 * k);
         }
-    }
-
-    private static String bigRing() {
-        StringBuilder text = new StringBuilder();
-        for (int label = 0; label < 12; label++) {
-            text.append("rule ").append((char) ('A' + label)).append('=').append((char) ('A' + (label + 1) % 12)).append(';');
-        }
-        return text.append("rule L=a;rule L=AA;").toString();
     }
 
     private static void step() {
@@ -651,7 +625,7 @@ public final class PromisesTest {
         d.due("k 16", d.x.tell(0, 0, 3, 16), NOT_THERE).due("k -1", d.x.tell(0, 0, 3, -1), NOT_THERE);
         d.due("wrong span", d.x.tell(0, 0, 4, 0), NOT_THERE);
         d.due("stays", d.out(), "(C b c)");
-        Desk e = new Desk("28 tell", bigRing(), "a");
+        Desk e = new Desk("28 tell", Grammars.bigRing(), "a");
         StringBuilder want = new StringBuilder("a");
         for (int n = 191; n >= 0; n--) {
             want.insert(0, "(" + (char) ('A' + n % 12) + " ").append(')');
@@ -683,7 +657,7 @@ public final class PromisesTest {
         for (int c = 0; c <= 300; c++) {
             d.due("one for each cost", d.x.cheap(0, 0, 1, c), c);
         }
-        Desk e = new Desk("30 cheap", EDGE, "aaaaaaab");
+        Desk e = new Desk("30 cheap", Grammars.EDGE, "aaaaaaab");
         e.due("21", e.x.cheap(0, 0, 8, 21), 0).due("10^15", e.x.cheap(0, 0, 8, 22), 1000000000000000L);
         e.due("7", e.x.cheap(1, 0, 8, 7), 0).due("8", e.x.cheap(1, 0, 8, 8), 1).due("22", e.x.cheap(1, 0, 8, 22), 1);
         e.due("10^15 + 1", e.x.cheap(1, 0, 8, 23), TOO_GREAT).due("all", e.x.cheap(0, 0, 8, 300), 1000000000000000L);
@@ -795,7 +769,7 @@ public final class PromisesTest {
         d.due("L, B, C", d.x.rings(), 2048 + 6);
         d.grammar("");
         d.due("no rules", d.x.rings(), 0);
-        Desk e = new Desk("36 rings", bigRing(), "");
+        Desk e = new Desk("36 rings", Grammars.bigRing(), "");
         e.due("all twelve", e.x.rings(), 4095);
     }
 
