@@ -104,6 +104,35 @@ final class Desk {
         return text.append('\n').append(out()).toString();
     }
 
+    /** All that is told of one item. */
+    String ofItem(int label, int i, int j) {
+        return x.can(label, i, j) + " " + x.least(label, i, j) + " " + x.ways(label, i, j) + " " + x.dearest(label, i, j)
+            + " " + x.used(label, i, j, 0) + " " + x.used(label, i, j, 1) + " " + x.sum(label, i, j) + " "
+            + x.value(label, i, j) + " " + x.cases(label, i, j, 0) + " " + x.cases(label, i, j, 1) + " "
+            + x.cases(label, i, j, 2) + " " + x.best(label, i, j, 0) + " " + x.best(label, i, j, 7) + " "
+            + x.step(label, i, j, 7, 1) + " " + x.size(label, i, j, 7, 0) + " " + x.cheap(label, i, j, 30) + " "
+            + x.alike(label, i, j, 0, 1);
+    }
+
+    /** All that is told of A, B and C over each span, of what is settled, of START and of the grammar. */
+    String answers() {
+        StringBuilder text = new StringBuilder();
+        for (int label = 0; label < 3; label++) {
+            for (int i = 0; i < x.count(1); i++) {
+                for (int j = i + 1; j <= x.count(1); j++) {
+                    text.append(ofItem(label, i, j)).append('\n');
+                }
+            }
+        }
+        for (int k = 0; k < 10; k++) {
+            text.append(x.settled(k, 0)).append(x.settled(k, 1)).append(x.settled(k, 2)).append(x.settled(k, 3)).append(' ');
+        }
+        return text + " " + x.count(1) + " " + x.count(2) + " " + x.count(6) + " " + x.count(9) + " " + x.rounds() + " "
+            + x.laws() + " " + x.heads() + " " + x.mends() + " " + x.mend(0) + " " + x.mend(1) + " " + x.mend(2) + " "
+            + x.rings() + " " + x.alive() + " " + x.without(0) + " " + x.without(4) + " " + x.bounds(0, 0, 1) + " "
+            + x.bounds(9, 2, 0);
+    }
+
     /** The text of a tree, or its answer if it is refused. */
     String tree(int label, int i, int j, int k) {
         int length = x.tell(label, i, j, k);

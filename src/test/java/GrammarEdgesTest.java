@@ -479,6 +479,8 @@ public final class GrammarEdgesTest {
         faulty("rule A=a" + " ".repeat(992), 1, 1000);
         faulty("rule A=a" + " ".repeat(991), 1, 999);
         faulty("rule A=a cost" + "\n".repeat(987), 1, 1000);
+        faulty(" ".repeat(985) + "rule A=a cost 5", 1, 1000);
+        faulty(" ".repeat(992) + "rule A=B", 1, 1000);
     }
 
     static void t1AWordCutShortIsAtItsPlace() {

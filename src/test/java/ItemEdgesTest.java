@@ -95,6 +95,17 @@ public final class ItemEdgesTest {
         d.due("closed again", d.x.ways(4, 0, 2), ENDLESS);
     }
 
+    /** One of several cases is endless, be it the first or the last. */
+    static void p15EndlessByOneCase() {
+        Desk d = new Desk("rule A=A;rule A=a;rule B=a;rule C=A;rule C=B;rule D=B;rule D=A;rule E=AF;rule E=BF;rule G=BF;"
+            + "rule G=AF;rule F=f;", "af");
+        d.due("C", d.x.ways(2, 0, 1), ENDLESS).due("D", d.x.ways(3, 0, 1), ENDLESS).due("B", d.x.ways(1, 0, 1), 1);
+        d.due("E", d.x.ways(4, 0, 2), ENDLESS).due("G", d.x.ways(6, 0, 2), ENDLESS);
+        d.x.drops(0, 1);
+        d.due("C", d.x.ways(2, 0, 1), 2).due("D", d.x.ways(3, 0, 1), 2).due("E", d.x.ways(4, 0, 2), 2);
+        d.due("G", d.x.ways(6, 0, 2), 2);
+    }
+
     static void p15ARingWithoutTreesOfItsOwn() {
         Desk d = new Desk("rule A=a;rule A=F;rule F=G;rule G=F;", "a");
         d.due("F and G have none", d.x.ways(0, 0, 1), 1).due("F", d.x.ways(5, 0, 1), 0);
@@ -176,6 +187,16 @@ public final class ItemEdgesTest {
         d.due("in each", d.x.used(0, 0, 1, 1), 16).due("in some", d.x.used(0, 0, 1, 0), 63);
         d.x.drops(1, 1);
         d.due("one way is left", d.x.used(0, 0, 1, 1), 1 + 4 + 16);
+    }
+
+    static void p17OfBothParts() {
+        Desk d = new Desk(PAIRS + "rule B=CA;rule C=a;rule B=AD;rule D=D;", "aa");
+        d.due("some", d.x.used(0, 0, 2, 0), 3).due("each", d.x.used(0, 0, 2, 1), 3);
+        d.due("some of B", d.x.used(1, 0, 2, 0), 2 + 4 + 8).due("each of B", d.x.used(1, 0, 2, 1), 2 + 4 + 8);
+        d.grammar("rule B=A b;rule A=a;rule C=a D;rule D=b;");
+        d.say("ab");
+        d.due("of the first alone", d.x.used(1, 0, 2, 0), 3).due("in each", d.x.used(1, 0, 2, 1), 3);
+        d.due("of the other alone", d.x.used(2, 0, 2, 0), 12).due("in each", d.x.used(2, 0, 2, 1), 12);
     }
 
     // ---- 18 sum ----
@@ -309,6 +330,53 @@ public final class ItemEdgesTest {
         d.due("zero is 2", d.x.laws() & 2, 0);
     }
 
+    /** Tables that break a law by 0 alone in one place of it: sums, products, the law, its bit. */
+    static void p21ZeroInEachPlaceOfALaw() {
+        String none = "0 0 0 0 0 0 0 0 0";
+        String[][] tables = {{"1 0 0 0 1 2 0 1 2", none}, {none, "2 0 0 0 1 1 0 1 2"},
+            {"1 0 2 0 1 2 0 1 2", "2 1 1 2 1 1 0 2 2"}, {"2 1 0 2 1 1 0 1 2", "1 1 2 1 1 2 0 1 2"},
+            {"1 1 2 0 1 2 0 1 2", "0 1 1 1 2 2 2 2 2"}, {"0 0 0 1 1 2 0 2 1", "0 2 1 1 1 1 2 1 1"}};
+        int[] laws = {1, 3, 6, 6, 7, 7};
+        for (int at = 0; at < laws.length; at++) {
+            Desk d = new Desk("table 3 zero 0 one 1 plus " + tables[at][0] + " times " + tables[at][1] + ";rule A=a as 2;", "");
+            d.due("table " + at, d.x.laws() >> laws[at] & 1, 0);
+        }
+        Desk d = new Desk("table 2 zero 0 one 1 plus 1 0 1 1 times 0 0 0 0;", "");
+        d.due("(0 + 1) + 0", d.x.laws() & 2, 0);
+        d.grammar("table 2 zero 0 one 1 plus 0 0 0 0 times 1 0 1 1;");
+        d.due("(0 1) 0", d.x.laws() & 8, 0);
+        d.grammar("table 2 zero 0 one 1 plus 0 1 1 1 times 1 0 0 1;");
+        d.due("zero zero", d.x.laws() & 32, 0);
+    }
+
+    /** One a, a one; zero a, a zero: either side alone breaks its law. */
+    static void p21EitherSide() {
+        Desk d = new Desk();
+        String[] times = {"0 0 1 1", "0 1 0 1"};
+        for (int side = 0; side < 2; side++) {
+            d.grammar("table 2 zero 0 one 1 plus 0 1 1 1 times " + times[side] + ";");
+            d.due("one", d.x.laws() & 16, 0).due("zero", d.x.laws() & 32, 0);
+        }
+        d.grammar("table 3 zero 0 one 1 plus 0 1 2 1 1 2 2 2 2 times 0 0 0 0 1 2 0 0 0;rule A=a as 2;");
+        d.due("one a is a, a one is not", d.x.laws() & 48, 32);
+        d.grammar("table 3 zero 0 one 1 plus 0 1 2 1 1 2 2 2 2 times 0 0 0 0 1 0 0 2 0;rule A=a as 2;");
+        d.due("a one is a, one a is not", d.x.laws() & 48, 32);
+    }
+
+    /** The last of forty is met, and what was told ahead of this text is not. */
+    static void p21FirstAndLastRule() {
+        String[] b = BREAKERS[1];
+        String table = "table 3 zero 0 one 1 plus " + b[3] + " times " + b[4] + ";";
+        Desk d = new Desk(table + "rule A=a;".repeat(39) + "rule A=a as 2;", "");
+        d.due("39", d.x.laws(), 509);
+        d.grammar(table + "rule A=a;".repeat(39));
+        d.due("it is gone", d.x.laws(), 511);
+        d.grammar(table + "rule A=a as 2;" + "rule A=a;".repeat(39));
+        d.due("0", d.x.laws(), 509);
+        d.grammar(table);
+        d.due("no rules", d.x.laws(), 511);
+    }
+
     /** 2 is no E, nor zero nor one: but one times one is 2. */
     static void p21AValueOfAnItemIsMet() {
         String text = "table 3 zero 0 one 1 plus 0 1 2 1 1 2 2 2 0 times 0 0 0 0 2 2 0 2 2;rule L=a;";
@@ -362,6 +430,17 @@ public final class ItemEdgesTest {
         d.due("around D", d.x.cases(3, 1, 2, 2), 0).due("around A", d.x.cases(0, 0, 2, 2), 1);
     }
 
+    /** The very first item and its case count, too. */
+    static void p22TheFirstItem() {
+        Desk d = new Desk("rule A=B;rule B=a;", "a");
+        d.due("A is around B", d.x.cases(1, 0, 1, 2), 1).due("A", d.x.cases(0, 0, 1, 0), 1).due("full", d.x.cases(0, 0, 1, 1), 1);
+        d.grammar("rule B=A b;rule A=a;rule B=b A;");
+        d.say("bb");
+        d.due("A over the first b has none", d.x.cases(1, 0, 2, 1), 0).due("the cases", d.x.cases(1, 0, 2, 0), 2);
+        d.due("no trees", d.x.can(1, 0, 2), 0).due("no ways", d.x.ways(1, 0, 2), 0).due("best", d.x.best(1, 0, 2, 0), NONE);
+        d.due("cheap", d.x.cheap(1, 0, 2, 300), 0).due("sum", d.x.sum(1, 0, 2), 0).due("used", d.x.used(1, 0, 2, 0), 0);
+    }
+
     // ---- 23 settled ----
 
     static void p23KFrom0() {
@@ -413,6 +492,24 @@ public final class ItemEdgesTest {
         d.due("not so many", d.x.settled(10, 0), NONE);
     }
 
+    /** Asked ahead of a change and behind it. */
+    static void p23AnewAfterEachChange() {
+        Desk d = new Desk("rule A=a;rule B=a cost 2;", "a");
+        d.due("A", d.x.settled(0, 0), 0).due("B", d.x.settled(1, 0), 1);
+        d.x.prices(0, 5);
+        d.due("B", d.x.settled(0, 0), 1).due("A", d.x.settled(1, 0), 0).due("5", d.x.settled(1, 3), 5);
+        d.x.drops(1, 1);
+        d.due("A", d.x.settled(0, 0), 0).due("no more", d.x.settled(1, 0), NONE);
+        d.say("ba");
+        d.due("over the second", d.x.settled(0, 1), 1).due("no more", d.x.settled(1, 0), NONE);
+        d.x.drops(1, 0);
+        d.due("B", d.x.settled(0, 0), 1).due("A", d.x.settled(1, 0), 0).due("no more", d.x.settled(2, 0), NONE);
+        d.grammar("rule C=b;");
+        d.due("C", d.x.settled(0, 0), 2).due("no more", d.x.settled(1, 0), NONE);
+        d.say("");
+        d.due("none", d.x.settled(0, 0), NONE);
+    }
+
     // ---- 30 cheap ----
 
     static void p30LabelsAndSpans() {
@@ -449,5 +546,43 @@ public final class ItemEdgesTest {
         // G has one of each cost from 9 on, and 10^15 of cost 24.
         d.due("9 to 23", d.x.cheap(6, 0, 8, 23), 15).due("a ring above it", d.x.cheap(6, 0, 8, 24), TOO_GREAT);
         d.due("c 301", d.x.cheap(1, 0, 8, 301), REFUSED).due("fewer again", d.x.cheap(6, 0, 8, 9), 1);
+    }
+
+    /** A has one tree of each cost; B a pair of them. */
+    static void p30PairsOfAllCosts() {
+        Desk d = new Desk("rule A=A;rule A=a;rule B=AA;", "aa");
+        d.due("2", d.x.cheap(1, 0, 2, 2), 0).due("3", d.x.cheap(1, 0, 2, 3), 1).due("4", d.x.cheap(1, 0, 2, 4), 3);
+        d.due("5", d.x.cheap(1, 0, 2, 5), 6).due("300", d.x.cheap(1, 0, 2, 300), 299 * 298 / 2);
+        d.due("299, behind it", d.x.cheap(1, 0, 2, 299), 298 * 297 / 2);
+    }
+
+    /** 2 to the 36th trees of one cost, beside one of 1 and one of 3, none of 2. */
+    static void p30ManyBesideNone() {
+        StringBuilder text = new StringBuilder("rule A=BC;rule C=x;rule C=x cost 3;rule B=DB;rule B=D;");
+        for (char label = 'D'; label <= 'L'; label++) {
+            char next = label == 'L' ? 'a' : (char) (label + 1);
+            text.append(("rule " + label + "=" + next + ";").repeat(2));
+        }
+        Desk d = new Desk(text.toString(), "aaaax");
+        d.due("41", d.x.cheap(0, 0, 5, 41), 0).due("42", d.x.cheap(0, 0, 5, 42), 1L << 36);
+        d.due("43", d.x.cheap(0, 0, 5, 43), 1L << 36).due("44", d.x.cheap(0, 0, 5, 44), 1L << 37);
+        d.due("300", d.x.cheap(0, 0, 5, 300), 1L << 37);
+    }
+
+    static void p30AnewAfterEachChange() {
+        Desk d = new Desk("rule A=A;rule A=A;rule A=A;rule A=a;", "a");
+        d.due("3^32 and all below", d.x.cheap(0, 0, 1, 33), TOO_GREAT);
+        d.x.drops(1, 1);
+        d.x.drops(2, 1);
+        d.due("one of each cost", d.x.cheap(0, 0, 1, 300), 300);
+        d.x.prices(0, 2);
+        d.due("of 1, 3, 5 ..", d.x.cheap(0, 0, 1, 300), 150);
+        d.x.drops(1, 0);
+        d.x.drops(2, 0);
+        d.due("many", d.x.cheap(0, 0, 1, 300), TOO_GREAT);
+        d.say("b");
+        d.due("none", d.x.cheap(0, 0, 1, 300), 0);
+        d.grammar("rule A=b;");
+        d.due("one", d.x.cheap(0, 0, 1, 300), 1).due("none for nothing", d.x.cheap(0, 0, 1, 0), 0);
     }
 }

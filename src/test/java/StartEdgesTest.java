@@ -74,6 +74,13 @@ public final class StartEdgesTest {
         d.due("no rules", d.x.heads(), 0);
     }
 
+    static void p33OneRule() {
+        Desk d = new Desk("rule L=a;", "ab");
+        d.due("one rule", d.x.heads(), 2);
+        d.x.drops(0, 1);
+        d.due("it is OUT", d.x.heads(), 0);
+    }
+
     static void p33FromOneToAll() {
         Desk d = new Desk(PAIRS, "aaaaaaaa");
         d.due("1 .. 8", d.x.heads(), 510);
@@ -125,6 +132,30 @@ public final class StartEdgesTest {
         d.due("too long", d.x.mends(), 0);
         d.say("a");
         d.due("too short", d.x.mends(), 0);
+    }
+
+    /** Each letter of a rule must be there, but for the one that is changed. */
+    static void p34TheOtherLetterMustBeThere() {
+        Desk d = new Desk("rule A=x a;", "ya");
+        d.due("y to x", d.x.mends(), 1);
+        d.say("xb");
+        d.due("b to a", d.x.mends(), 1);
+        d.say("yb");
+        d.due("two are wrong", d.x.mends(), 0);
+        d.say("xa");
+        d.due("none is wrong", d.x.mends(), 0);
+        d.say("xaa");
+        d.due("too long", d.x.mends(), 0);
+        d.say("aa");
+        d.due("a to x", d.x.mends(), 1);
+    }
+
+    /** A rule of two parts is over no single letter. */
+    static void p34OneLetterHasNoPairs() {
+        Desk d = new Desk("rule A=a A;rule A=b;rule A=A c;", "b");
+        d.due("b to a, to c", d.x.mends(), 0).due("b", d.x.can(0, 0, 1), 1);
+        d.say("a");
+        d.due("a to b", d.x.mends(), 1);
     }
 
     static void p34TheSentenceStays() {
@@ -200,6 +231,48 @@ public final class StartEdgesTest {
         due(d, 0, 1, 99);
         d.say("b");
         due(d, 0, 0, 1);
+    }
+
+    /** What the other part costs is counted, be it ahead of the change or behind it, a letter or a label. */
+    static void p35TheOtherPart() {
+        Desk d = new Desk("rule A=a B;rule B=b cost 5;", "xb");
+        due(d, 0, 0, 6);
+        d.say("ax");
+        due(d, 1, 1, 6);
+        d.grammar("rule A=B a;rule B=b cost 5;");
+        d.say("bx");
+        due(d, 1, 0, 6);
+        d.say("xa");
+        due(d, 0, 1, 6);
+        d.grammar("rule A=BC cost 3;rule B=b cost 5;rule C=c cost 7;");
+        d.say("bx");
+        due(d, 1, 2, 15);
+        d.say("xc");
+        due(d, 0, 1, 15);
+        d.grammar("rule A=b D;rule D=C c cost 2;rule C=c d cost 4;");
+        d.say("bcxc");
+        due(d, 2, 3, 7);
+        d.say("bcdx");
+        due(d, 3, 2, 7);
+        d.say("xcdc");
+        due(d, 0, 1, 7);
+    }
+
+    static void p35AnewAfterEachChange() {
+        Desk d = new Desk("rule A=a;rule A=b cost 2;", "x");
+        due(d, 0, 0, 1);
+        d.x.prices(0, 3);
+        due(d, 0, 1, 2);
+        d.x.drops(1, 1);
+        due(d, 0, 0, 3);
+        d.say("a");
+        due(d, NONE, NONE, NONE);
+        d.x.drops(1, 0);
+        due(d, 0, 1, 2);
+        d.grammar("rule A=c;");
+        due(d, 0, 2, 1);
+        d.say("");
+        due(d, NONE, NONE, NONE);
     }
 
     static void p35OfLikeOnesOverTheWholeAlphabet() {

@@ -78,34 +78,8 @@ public final class TermsEdgesTest {
             Desk out = new Desk(rest + last, "aba");
             Desk never = new Desk(rest, "aba");
             out.x.drops(5, 1);
-            for (int label = 0; label < 12; label++) {
-                for (int i = 0; i < 3; i++) {
-                    for (int j = i + 1; j <= 3; j++) {
-                        out.due(last + label + i + j, all(out.x, label, i, j), all(never.x, label, i, j));
-                    }
-                }
-            }
-            out.due(last, ofStart(out.x), ofStart(never.x));
+            out.due(last + " is OUT", out.answers(), never.answers());
         }
-    }
-
-    private static String all(SpanValues x, int label, int i, int j) {
-        return x.can(label, i, j) + " " + x.least(label, i, j) + " " + x.ways(label, i, j) + " " + x.dearest(label, i, j)
-            + " " + x.used(label, i, j, 0) + " " + x.used(label, i, j, 1) + " " + x.sum(label, i, j) + " "
-            + x.value(label, i, j) + " " + x.cases(label, i, j, 0) + " " + x.cases(label, i, j, 1) + " "
-            + x.cases(label, i, j, 2) + " " + x.best(label, i, j, 0) + " " + x.best(label, i, j, 7) + " "
-            + x.step(label, i, j, 7, 1) + " " + x.size(label, i, j, 7, 0) + " " + x.cheap(label, i, j, 30) + " "
-            + x.alike(label, i, j, 0, 1);
-    }
-
-    private static String ofStart(SpanValues x) {
-        StringBuilder text = new StringBuilder();
-        for (int k = 0; k < 20; k++) {
-            text.append(x.settled(k, 0)).append(x.settled(k, 1)).append(x.settled(k, 2)).append(x.settled(k, 3)).append(' ');
-        }
-        return text + " " + x.count(2) + " " + x.count(6) + " " + x.count(9) + " " + x.rounds() + " " + x.laws() + " "
-            + x.heads() + " " + x.mends() + " " + x.mend(0) + " " + x.mend(1) + " " + x.mend(2) + " " + x.rings() + " "
-            + x.alive() + " " + x.without(0) + " " + x.without(4) + " " + x.bounds(0, 0, 1) + " " + x.bounds(9, 2, 0);
     }
 
     /** Plus is its second one if that is not 0; so the last case in order tells. */
@@ -159,6 +133,15 @@ public final class TermsEdgesTest {
         }
     }
 
+    /** Rules that go on to a label are ahead of a dearer letter, if their numbers are. */
+    static void t2OrderOfLikeCostByRuleOfThree() {
+        Desk d = new Desk("rule A=B;rule A=C;rule A=a cost 2;rule A=D;rule B=a;rule C=a;rule D=a;", "a");
+        String[] want = {"0 4", "1 5", "2", "3 6", ""};
+        for (int k = 0; k < want.length; k++) {
+            d.due("tree " + k, steps(d, 0, 1, k), want[k]);
+        }
+    }
+
     static void t2OrderOfLikeCostByRuleAheadOfM() {
         Desk d = new Desk("rule A=BC;rule A=CB;rule B=b;rule C=b b cost 2;rule C=b;rule B=b b cost 2;", "bbb");
         // Rule 0 with m 1, then with m 2, then rule 1 with both.
@@ -185,6 +168,37 @@ public final class TermsEdgesTest {
         String[] want = {"0 1 2 5", "0 1 3", "0 1 4 6", ""};
         for (int k = 0; k < want.length; k++) {
             d.due("tree " + k, steps(d, 0, 2, k), want[k]);
+        }
+    }
+
+    static void t2OrderOfLikeCostBehindALetter() {
+        Desk d = new Desk("rule A=a B;rule B=b;rule B=b;rule B=b;rule C=B a;", "ab");
+        String[] want = {"0 1", "0 2", "0 3", ""};
+        for (int k = 0; k < want.length; k++) {
+            d.due("tree " + k, steps(d, 0, 2, k), want[k]);
+        }
+        d.say("ba");
+        d.due("ahead of a letter", steps(d, 2, 2, 2), "4 3").due("no more", steps(d, 2, 2, 3), "");
+    }
+
+    /** The first part's trees differ in their own part alone: its rule is ahead, dear as it is. */
+    static void t2OrderOfLikeCostByAPartOfAPart() {
+        String rest = "rule C=c cost 5;rule C=c;rule D=d;rule D=d cost 5;";
+        String[] want = {"0 1 3 4", "0 1 2 4", "0 1 3 5", "0 1 2 5", ""};
+        Desk d = new Desk("rule A=BD;rule B=b C;" + rest, "bcd");
+        for (int k = 0; k < want.length; k++) {
+            d.due("tree " + k, steps(d, 0, 3, k), want[k]);
+        }
+        d.grammar("rule A=BD;rule B=EC;" + rest + "rule E=b;");
+        String[] more = {"0 1 6 3 4", "0 1 6 2 4", "0 1 6 3 5", "0 1 6 2 5", ""};
+        for (int k = 0; k < more.length; k++) {
+            d.due("tree " + k, steps(d, 0, 3, k), more[k]);
+        }
+        d.x.prices(2, 1);
+        d.x.prices(3, 5);
+        String[] other = {"0 1 6 2 4", "0 1 6 2 5", "0 1 6 3 4", "0 1 6 3 5", ""};
+        for (int k = 0; k < other.length; k++) {
+            d.due("other costs, tree " + k, steps(d, 0, 3, k), other[k]);
         }
     }
 
@@ -230,6 +244,34 @@ public final class TermsEdgesTest {
         d.x.drops(0, 1);
         d.due("no ring: D", d.x.sum(3, 0, 1), 7).due("A", d.x.sum(0, 0, 1), 1).due("C", d.x.sum(2, 0, 1), 4);
         d.due("B", d.x.sum(1, 0, 1), 340);
+    }
+
+    /** The equations x is x + y and y is x + 1: the first has no x of its own, and yet there is one solution. */
+    static void t3OneSolutionInAnotherOrder() {
+        Desk d = new Desk("rule A=A;rule A=B;rule B=A;rule B=a;", "a");
+        d.due("x", d.x.sum(0, 0, 1), 9972).due("y", d.x.sum(1, 0, 1), 0).due("it has trees", d.x.can(1, 0, 1), 1);
+        d.grammar("rule A=A;rule A=B;rule B=B;rule B=C;rule C=A;rule C=a;");
+        // y is 0, then z is 0, and 0 is x + 1.
+        d.due("x", d.x.sum(0, 0, 1), 9972).due("y", d.x.sum(1, 0, 1), 0).due("z", d.x.sum(2, 0, 1), 0);
+    }
+
+    /** 88 times 170 is 4987 modulo 9973, and 1 less 4987 is the half of 1; 277 times 36 is 1 less than 9973. */
+    static void t3OneSolutionByAnyNumber() {
+        Desk d = new Desk("rule A=B cost 88;rule B=A cost 99;rule B=A cost 71;rule B=b;", "b");
+        d.due("B", d.x.sum(1, 0, 1), 2).due("A", d.x.sum(0, 0, 1), 176);
+        d.grammar("rule A=B cost 36;rule B=b;rule C=A cost 99;rule C=A cost 99;rule C=A cost 79;");
+        d.due("C", d.x.sum(2, 0, 1), 9972).due("A", d.x.sum(0, 0, 1), 36);
+    }
+
+    /** Twelve equations, and none of them has a solution: once round the ring is once again. */
+    static void t3TwelveEquations() {
+        Desk d = new Desk(Grammars.bigRing(), "a");
+        for (int label = 0; label < 12; label++) {
+            d.due("label " + label, d.x.sum(label, 0, 1), NONE);
+        }
+        d.x.prices(0, 2);
+        // x is 2 x + 2 for A, by all ways round.
+        d.due("A", d.x.sum(0, 0, 1), 9971).due("L", d.x.sum(11, 0, 1), 9972).due("B", d.x.sum(1, 0, 1), 9972);
     }
 
     static void t3ASpanFailsByAnother() {

@@ -168,6 +168,22 @@ public final class TextEdgesTest {
         }
     }
 
+    /** What stood behind the end is not there, also where it would go on with a word or a number. */
+    static void p03CutInAToken() {
+        Desk d = new Desk();
+        String text = "rule A=a cost 55;";
+        feedText(d, text);
+        d.due("cost 5", d.x.end(15), 15).due("no semicolon", d.x.grammar(), FAULTY).due("at the end", d.x.fault(1), 15);
+        feedText(d, text);
+        d.due("cost 55", d.x.end(16), 16).due("no semicolon", d.x.grammar(), FAULTY).due("at the end", d.x.fault(1), 16);
+        feedText(d, text);
+        d.due("cos", d.x.end(12), 12).due("no word", d.x.grammar(), FAULTY).due("at its place", d.x.fault(1), 9);
+        feedText(d, text);
+        d.due("rul", d.x.end(3), 3).due("no word", d.x.grammar(), FAULTY).due("at its place", d.x.fault(1), 0);
+        feedText(d, "rule A=a;rule A=a;;;");
+        d.due("one", d.x.end(9), 9).due("one", d.x.grammar(), 1);
+    }
+
     static void p03AllElseStays() {
         Desk d = used();
         String before = d.picture();
@@ -190,6 +206,17 @@ public final class TextEdgesTest {
         d.due("its label", d.x.rule(0, 0), 2).due("its cost", d.x.rule(0, 3), 1).due("its E", d.x.rule(0, 4), 1);
         d.due("no A", d.x.can(0, 0, 1), 0).due("C over b", d.x.can(2, 2, 3), 1).due("ITEMS", d.x.count(6), 1);
         d.due("more", d.grammar(Edges.ALL), 13).due("A over aa", d.x.can(0, 0, 2), 1);
+    }
+
+    /** A text, another sentence, a rule OUT, a cost, an E: what was asked ahead of it is found anew. */
+    static void p04AllIsFoundAnew() {
+        String text = "rule A=AB cost 3;rule A=a;rule B=b as 0;rule B=A cost 2;rule C=C;";
+        String other = MODULO_3 + "rule B=AB cost 2;rule A=a as 2;rule B=b;rule B=B;rule C=b;";
+        Desk warm = new Desk(text, "ab");
+        warm.answers();
+        warm.grammar(other);
+        Desk cold = new Desk(other, "ab");
+        warm.due("another text", warm.answers(), cold.answers());
     }
 
     static void p04NoneIsOut() {
@@ -335,6 +362,17 @@ public final class TextEdgesTest {
         Desk d = new Desk();
         d.due("ab", d.say("ab"), 2).due("empty", d.x.count(7), 0).due("none then", d.x.say(), 0);
         d.due("refused", d.say("a?"), FAULTY).due("empty", d.x.count(7), 0).due("end 1", d.x.end(1), NONE);
+    }
+
+    static void p06AllIsFoundAnew() {
+        String text = "rule A=AB cost 3;rule A=a;rule B=b as 0;rule B=A cost 2;rule C=C;";
+        for (String sentence : new String[] {"aa", "ba", "b", ""}) {
+            Desk warm = new Desk(text, "ab");
+            warm.answers();
+            warm.say(sentence);
+            Desk cold = new Desk(text, sentence);
+            warm.due("'" + sentence + "'", warm.answers(), cold.answers());
+        }
     }
 
     static void p06WithoutEnd() {
@@ -509,6 +547,18 @@ public final class TextEdgesTest {
         d.due("all trees", d.x.count(6), 36).due("alive", d.x.alive(), 3);
     }
 
+    static void p10AllIsFoundAnew() {
+        String text = "rule A=AB cost 3;rule A=a;rule B=b;rule B=A cost 2;rule C=b;rule C=C;";
+        for (int rule = 0; rule < 6; rule++) {
+            Desk warm = new Desk(text, "ab");
+            warm.answers();
+            warm.x.drops(rule, 1);
+            Desk cold = new Desk(text, "ab");
+            cold.x.drops(rule, 1);
+            warm.due("rule " + rule, warm.answers(), cold.answers());
+        }
+    }
+
     static void p10TheLastOfForty() {
         Desk d = new Desk("rule B=b;".repeat(39) + "rule A=a;", "a");
         d.due("39", d.x.drops(39, 1), 1).due("no tree", d.x.can(0, 0, 1), 0).due("40", d.x.drops(40, 1), REFUSED);
@@ -541,6 +591,18 @@ public final class TextEdgesTest {
         d.due("3", d.x.least(1, 2, 3), 3);
     }
 
+    static void p11AllIsFoundAnew() {
+        String text = "rule A=AB cost 3;rule A=a;rule B=b;rule B=A cost 2;rule C=b;rule C=C;";
+        for (int rule = 0; rule < 6; rule++) {
+            Desk warm = new Desk(text, "ab");
+            warm.answers();
+            warm.x.prices(rule, 9);
+            Desk cold = new Desk(text, "ab");
+            cold.x.prices(rule, 9);
+            warm.due("rule " + rule, warm.answers(), cold.answers());
+        }
+    }
+
     static void p11TheLastOfForty() {
         Desk d = new Desk("rule B=b;".repeat(39) + "rule A=a;", "a");
         d.due("39", d.x.prices(39, 9), 1).due("9", d.x.least(0, 0, 1), 9).due("40", d.x.prices(40, 9), REFUSED);
@@ -567,6 +629,18 @@ public final class TextEdgesTest {
         d.due("lowest", d.x.elements(LOWEST, 0), REFUSED).due("highest", d.x.elements(HIGHEST, 0), REFUSED);
         d.due("all stays", d.picture(), before).due("the next call", d.x.elements(1, 0), 2).due("0", d.x.rule(1, 4), 0);
         d.due("its value", d.x.value(0, 0, 1), 0);
+    }
+
+    static void p12AllIsFoundAnew() {
+        String text = "rule A=AB cost 3;rule A=a;rule B=b;rule B=A cost 2;rule C=b;rule C=C;";
+        for (int rule = 0; rule < 6; rule++) {
+            Desk warm = new Desk(text, "ab");
+            warm.answers();
+            warm.x.elements(rule, 0);
+            Desk cold = new Desk(text, "ab");
+            cold.x.elements(rule, 0);
+            warm.due("rule " + rule, warm.answers(), cold.answers());
+        }
     }
 
     static void p12TheLastOfForty() {
